@@ -22,6 +22,7 @@ public final class QuestionFair {
     private static final int MOST_TEXT = 150;
     private static final int MOST_BYTE = 127;
     private static final int MOST_FIGURES = 7;
+    private static final int HIGHEST_UNIT = 1000000;
     private static final int GREATEST_ROW = 7777777;
     private static final int IMAGES = 2;
     private static final int REASONS = 3;
@@ -458,32 +459,23 @@ public final class QuestionFair {
         return low <= number && number <= high;
     }
 
-    private static int whether(int a, int x) {
-        return x >= a ? 1 : 0;
-    }
-
-    private static int denied(int a, int x) {
-        return 1 - whether(a, x);
-    }
-
-    private static int leftOver(int a, int x) {
-        return x % (Math.floorMod(a, 4) + 2);
-    }
-
     private static int answerOf(int kind, int a, int x) {
+        int whether = x >= a ? 1 : 0;
+        int denied = 1 - whether;
+        int leftOver = x % (Math.floorMod(a, 4) + 2);
         switch (kind) {
             case 0:
-                return whether(a, x);
+                return whether;
             case 1:
-                return denied(a, x);
+                return denied;
             case 2:
-                return leftOver(a, x);
+                return leftOver;
             case 3:
-                return leftOver(a, x) / 2;
+                return leftOver / 2;
             case 4:
-                return leftOver(a, x) + 5 * whether(a, x);
+                return leftOver + 5 * whether;
             default:
-                return x == a ? 2 : denied(a, x);
+                return x == a ? 2 : denied;
         }
     }
 
@@ -540,21 +532,21 @@ public final class QuestionFair {
             marks[questions] = a;
             pence[questions] = itsPence;
             for (int x = 0; x < MOST_CASES; x++) {
-                alike[questions * MOST_CASES + x] = answeredAs(kind, a, x);
+                setAlike(questions, x);
             }
             questions++;
             undoable = 0;
         }
 
-        private static int answeredAs(int kind, int a, int x) {
-            int sought = answerOf(kind, a, x);
+        private void setAlike(int q, int x) {
+            int sought = answerIn(q, x);
             int bits = 0;
             for (int y = 0; y < MOST_CASES; y++) {
-                if (answerOf(kind, a, y) == sought) {
+                if (answerIn(q, y) == sought) {
                     bits |= 1 << y;
                 }
             }
-            return bits;
+            alike[q * MOST_CASES + x] = bits;
         }
 
         int answerIn(int q, int x) {
@@ -787,7 +779,8 @@ public final class QuestionFair {
                 if (token == END) {
                     return items;
                 }
-                if (!readItem()) {
+                boolean fine = token == CASE ? readCase() : mayAskMore() && readQuestion();
+                if (!fine) {
                     return NONE;
                 }
                 items++;
@@ -804,11 +797,8 @@ public final class QuestionFair {
             return stepToStop();
         }
 
-        private boolean readItem() {
-            if (token == CASE) {
-                return readCase();
-            }
-            return token == QUESTION && draft.questions < MOST_QUESTIONS && readQuestion();
+        private boolean mayAskMore() {
+            return token == QUESTION && draft.questions < MOST_QUESTIONS;
         }
 
         private boolean readCase() {
@@ -904,11 +894,11 @@ public final class QuestionFair {
         }
 
         private static boolean isFigure(int c) {
-            return within(c, '0', '9');
+            return c >= '0' && c <= '9';
         }
 
         private static boolean isLetter(int c) {
-            return within(c, 'a', 'z');
+            return c >= 'a' && c <= 'z';
         }
     }
 
@@ -1027,20 +1017,16 @@ public final class QuestionFair {
         final int[] least = new int[MOST_SETS];
 
         int weighedPence(Stand stand, int left, int row) {
-            int unit = 1;
-            for (int figures = 1; figures < MOST_FIGURES && row / unit >= 10; figures++) {
-                unit *= 10;
-            }
             int sum = 0;
             int set = 0;
-            int rest = row;
-            for (int figures = 0; figures < MOST_FIGURES && rest > 0 && unit > 0; figures++) {
-                int q = rest / unit - 1;
+            int unit = HIGHEST_UNIT;
+            for (int figures = 0; figures < MOST_FIGURES && unit > 0; figures++) {
+                int q = row / unit % 10 - 1;
+                // A figure 0 is here only ahead of the row's first one.
                 if (within(q, 0, stand.questions - 1)) {
                     sum += stand.pence[q] * unknownWeight(stand, left, set);
                     set |= 1 << q;
                 }
-                rest %= unit;
                 unit /= 10;
             }
             return sum;

@@ -640,6 +640,8 @@ public final class PromiseTests {
         due("haggle(0), can not be", g.haggle(0), -1);
         QuestionFair h = whethers(3, 1, 5, 2, 6, 3, 0);
         due("haggle(2), an empty one", h.haggle(2), -1);
+        due("haggle(0), for nothing", whethers(2, 1, 5, 1, 0).haggle(0), 0);
+        due("haggle(1), not even for nothing", whethers(2, 1, 0, 1, 5).haggle(1), -1);
         refusals(f, 2, 0, 0);
     }
 
