@@ -275,8 +275,8 @@ public final class RefusalTests {
 
     private static void badRowsAndStalls(State state) {
         int next = made(state).count(1) + 1;
-        int[] rows = {LEAST, -11, -1, 8, 9, 10, next, 10 * next, 100 * next + 11, 1111111 - 100, 7777778, 7777780,
-            10000000, 11111111, 77777777, 1111111111, MOST};
+        int[] rows = {LEAST, -11, -1, 8, 9, 10, next, 10 * next, 100 * next + 11, 1000000 * next + 111111, 1111011,
+            7777778, 7777780, 10000000, 11111111, 77777777, 1111111111, MOST};
         for (int v : rows) {
             bad(state, "row(" + v + ")", f -> f.row(v));
         }

@@ -287,6 +287,12 @@ public final class SentenceTests {
         faultAt(8, "fair 8; questio 0 0 0;");
         faultAt(7, "fair 8;questions 0 0 0;");
         faultAt(7, "fair 8;casequestion 0 0 0;");
+        wordsOffByOne();
+        faultAt(14, "fair 8;case 1 x;");
+        faultAt(12, "fair 8;case x 1;");
+        faultAt(18, "fair 8;question 1 x 1;");
+        faultAt(20, "fair 8;question 1 1 case;");
+        faultAt(15, "fair 8;case 1 1x;");
         says("fair again,");
         faultAt(7, "fair 8;fair 8;");
         faultAt(9, "fair 8;  fair");
@@ -334,14 +340,36 @@ public final class SentenceTests {
         readIs("fair 16;case 15 1;", 2);
         says("a byte that begins none, too);");
         for (int c = 0; c < 128; c++) {
-            boolean token = c == ' ' || c == 'f';
-            readIs((char) c + "", token ? (c == ' ' ? -11 : -10) : -10);
+            readIs((char) c + "", c == ' ' ? -11 : -10);
             readIs("fair 8;" + (char) c, c == ' ' ? 1 : -17);
         }
         for (char c : "\u0000\t\n\u001f!/:<@AFZ[`{\u007f-,.".toCharArray()) {
             faultAt(4, "fair" + c + "8;");
             faultAt(6, "fair 1" + c + "8;");
             faultAt(7, "fair 8;" + c + ";");
+        }
+    }
+
+    /** Each letter of each word is looked at, and neither one more nor one fewer will do. */
+    private static void wordsOffByOne() {
+        String[][] items = {{"", "fair", " 8;"}, {"fair 8;", "case", " 0 1;"}, {"fair 8;", "question", " 0 0 0;"}};
+        for (String[] item : items) {
+            String word = item[1];
+            int place = item[0].length();
+            for (int i = 0; i < word.length(); i++) {
+                faultAt(place, item[0] + word.substring(0, i) + "x" + word.substring(i + 1) + item[2]);
+                faultAt(place, item[0] + word.substring(0, i) + word.substring(i + 1) + item[2]);
+                faultAt(place, item[0] + word.substring(0, i) + "x" + word.substring(i) + item[2]);
+            }
+        }
+        QuestionFair f = new QuestionFair();
+        String[] texts = {
+            "fair 8;fair", "xyz 8;", "fair 8;case 0 1;", "fair 8;xyz 0 1;", "fair 8;question 1 1 1", "fair x;",
+        };
+        int[] dues = {-17, -10, 2, -17, -31, -15};
+        for (int i = 0; i < texts.length; i++) {
+            typeAll(f, texts[i]);
+            due("read() of '" + texts[i] + "' behind the others", f.read(), dues[i]);
         }
     }
 
@@ -387,9 +415,18 @@ public final class SentenceTests {
         f.ask(0, 1);
         due("read() again of the same", f.read(), 2);
         due("digest()", f.digest(), digestOf(2, 1, 0, 2, 0, 22, 1, 1, 1, 1, 5, 85, 11));
+        partingIs(f, new int[] {2}, 1, 5);
         due("from(0)", f.from(0), -3);
         due("from(1)", f.from(1), 1);
         due("digest()", f.digest(), digestOf(3, 2, 1, 2, 1, 22, 9, 1, 1, 0, 1, 7, 0, 2, 4, 0, 1, 85, 11));
+    }
+
+    /** How many parts each QUESTION makes, and AT ONCE: told of the QUESTIONS that are there now. */
+    private static void partingIs(QuestionFair f, int[] parts, int atOnce, int pence) {
+        for (int q = 0; q < parts.length; q++) {
+            due("cuts(" + q + ", 1)", f.cuts(q, 1), parts[q]);
+        }
+        atOnceIs(f, atOnce, pence);
     }
 
     // ---- part 2: what it cuts
@@ -430,6 +467,21 @@ public final class SentenceTests {
         f.ask(0, 0);
         cutsAre(f, new int[][] {{0, 0, 0}, {0, 0, 0}, {0, 0, 0}});
 
+        QuestionFair first = of(4, 0, 1, 0);
+        for (int x = 1; x < 4; x++) {
+            first.weigh(x, 2);
+        }
+        cutsAre(first, new int[][] {{3, 2, 1}});
+        first.ask(0, 0);
+        cutsAre(first, new int[][] {{1, 1, 1}});
+        // What is not LEFT is light, but is not weighed.
+        QuestionFair some = of(8, 2, 0, 0, 0, 6, 0, 0, 4, 0);
+        for (int x = 4; x < 8; x++) {
+            some.weigh(x, 9 - x % 2);
+        }
+        some.ask(2, 1);
+        cutsAre(some, new int[][] {{2, 2, 16}, {2, 2, 17}, {4, 1, 34}});
+
         says("EMPTY: QUESTIONS (bits) that do not part what is LEFT in two at least.");
         due("empty(), no QUESTIONS", new QuestionFair().empty(), 0);
         QuestionFair g = of(4, 0, 0, 0, 0, 1, 0, 0, 2, 0, 0, 3, 0, 0, 4, 0, 2, 0, 0, 5, 15, 0);
@@ -469,7 +521,7 @@ public final class SentenceTests {
     }
 
     private static void sevenAlike() {
-        QuestionFair f = of(8);
+        QuestionFair f = of(16);
         for (int q = 0; q < 7; q++) {
             f.question(q % 2, 3, q);
         }
@@ -501,6 +553,8 @@ public final class SentenceTests {
         f.price(3, 0);
         f.price(4, 0);
         due("best(), all for nothing", f.best(), 2);
+        due("best(), a worse one for less behind it", of(8, 0, 4, 99, 0, 3, 0).best(), 0);
+        due("best(), a better one for more behind it", of(8, 0, 3, 0, 0, 4, 99).best(), 1);
         QuestionFair one = of(1, 0, 0, 2, 0, 0, 1, 0, 0, 1);
         due("best(), one LEFT", one.best(), 1);
         one.ask(0, 0);
@@ -570,6 +624,16 @@ public final class SentenceTests {
         oneByOneIs(f, 0, -1, 0);
         oneByOneIs(of(1), 0, -1, 0);
         oneByOneIs(of(1, 0, 0, 0), 0, -1, 0);
+        QuestionFair straight = ladder(4, 5);
+        oneByOneIs(straight, 10, 1, 2);
+        straight.ask(0, 15);
+        oneByOneIs(straight, 0, -1, 0);
+        straight.undo();
+        oneByOneIs(straight, 10, 1, 2);
+        straight.fair(2);
+        oneByOneIs(straight, -1, -1, -1);
+        straight.question(1, 1, 4);
+        oneByOneIs(straight, 4, 0, 1);
         says("how many QUESTIONS at worst that takes, the first such QUESTION being asked each time; none: it can not be.");
         // The first for nothing makes it three, where two would be enough.
         oneByOneIs(of(4, 0, 1, 0, 0, 2, 5, 0, 3, 5), 10, 0, 3);
@@ -582,6 +646,30 @@ public final class SentenceTests {
         g.ask(1, 0);
         oneByOneIs(g, 5, 0, 1);
         refusals(g, 0, 0, 0);
+        oneByOneBesideAll();
+    }
+
+    /** On one object for some fairs, so that nothing of an earlier one may shine through. */
+    private static void oneByOneBesideAll() {
+        QuestionFair f = new QuestionFair();
+        for (int made = 0; made < 120; made++) {
+            int n = 2 + made * 7 % 15;
+            QuestionFair twin = of(n);
+            if (made % 30 == 0) {
+                f = new QuestionFair();
+            }
+            f.fair(n);
+            for (int q = 0; q < 7; q++) {
+                int kind = (made + q * 5) % 6;
+                int a = (made * 3 + q * 5) % 16;
+                int pence = (made * 11 + q * q * 7) % 30;
+                f.question(kind, a, pence);
+                twin.question(kind, a, pence);
+            }
+            Seen seen = new Seen(twin);
+            int[] dues = seen.oneByOne(seen.left);
+            oneByOneIs(f, dues[0], dues[1], dues[2]);
+        }
     }
 
     private static void oneWrongKnowsParted() {
@@ -662,6 +750,13 @@ public final class SentenceTests {
         for (int row : new int[] {8, 9, 18, 81, 70, 7077777, 7777770, 7777778, 8777777, 11111111, 77777777}) {
             due("row(" + row + ")", full.row(row), -2);
         }
+        QuestionFair six = ladder(7, 1);
+        for (int row : new int[] {1111111, 6666666, 6111111, 1111116, 111111}) {
+            due("row(" + row + "), six QUESTIONS", six.row(row), 1);
+        }
+        for (int row : new int[] {7, 17, 71, 7111111, 1711111, 1117111, 1111117, 711111}) {
+            due("row(" + row + "), six QUESTIONS", six.row(row), -2);
+        }
         says("till just one CASE is left, or the row ends: PENCE in the mean, by WEIGHTS of CASES LEFT: THE FRACTION; NO: "
                 + "nothing LEFT.");
         rowIs(f, 2222222, 20, 1);
@@ -677,6 +772,10 @@ public final class SentenceTests {
         f.ask(1, 1);
         rowIs(f, 1111111, 0, 1);
         rowIs(of(1, 0, 0, 99), 1, 0, 1);
+        QuestionFair light = of(2, 0, 1, 99);
+        rowIs(light, 1, 99, 1);
+        light.ask(0, 1);
+        rowIs(light, 1, 0, 1);
         f.ask(1, 0);
         due("row(12), nothing LEFT", f.row(12), -3);
         due("row(0), nothing LEFT", f.row(0), -3);
@@ -696,6 +795,14 @@ public final class SentenceTests {
         bestRowIs(of(2, 0, 0, 9, 0, 1, 3), 21, 3, 1);
         bestRowIs(of(2, 0, 0, 9, 0, 0, 3), 12, 12, 1);
         bestRowIs(of(2, 0, 0, 0, 0, 0, 1, 0, 0, 1, 0, 0, 1, 0, 0, 1, 0, 0, 1, 0, 1, 9), 1723456, 9, 1);
+        QuestionFair fewer = ladder(8, 9);
+        fewer.bestRow();
+        fewer.fair(3);
+        fewer.question(0, 1, 7);
+        fewer.question(0, 2, 4);
+        bestRowIs(fewer, 21, 26, 3);
+        fewer.ask(0, 0);
+        bestRowIs(fewer, 12, 0, 1);
         bestRowOfAll();
     }
 
@@ -835,6 +942,40 @@ public final class SentenceTests {
                     answers[q][x] = f.answer(q, x);
                 }
             }
+        }
+
+        /** ONE BY ONE of some CASES by trying all: PENCE, first, how many. */
+        int[] oneByOne(List<Integer> some) {
+            if (some.size() < 2) {
+                return new int[] {0, -1, 0};
+            }
+            int[] least = {-1, -1, -1};
+            for (int q = 0; q < pence.length; q++) {
+                int[] worst = worstBehind(q, some);
+                if (worst[0] >= 0 && (least[1] < 0 || worst[0] < least[0])) {
+                    least = new int[] {worst[0], q, worst[1]};
+                }
+            }
+            return least;
+        }
+
+        private int[] worstBehind(int q, List<Integer> some) {
+            int[] worst = {0, 0};
+            for (int said = 0; said < 16; said++) {
+                List<Integer> part = new ArrayList<>();
+                for (int x : some) {
+                    if (answers[q][x] == said) {
+                        part.add(x);
+                    }
+                }
+                int[] behind = part.size() == some.size() ? new int[] {-1, -1, -1} : oneByOne(part);
+                if (behind[0] < 0) {
+                    return new int[] {-1, -1};
+                }
+                worst[0] = Math.max(worst[0], behind[0]);
+                worst[1] = Math.max(worst[1], behind[2]);
+            }
+            return new int[] {pence[q] + worst[0], 1 + worst[1]};
         }
 
         int stalls(int seed, int m) {
@@ -997,6 +1138,7 @@ public final class SentenceTests {
         due("from(0)", f.from(0), 1);
         due("count(5), THE TEXT goes on", f.count(5), 1);
         fractionIs(f, 7, 1);
+        imagesOfStepsAndParts();
         due("image(0), over the old one", f.image(0), 1);
         f.forget();
         due("image(0), over the old one", f.image(0), 1);
@@ -1005,6 +1147,50 @@ public final class SentenceTests {
         due("count(2)", f.count(2), 0);
         due("count(4)", f.count(4), 4);
         refusals(f, 0, 3, 0);
+    }
+
+    private static void imagesOfStepsAndParts() {
+        QuestionFair f = of(4, 0, 2, 1, 0, 3, 1);
+        f.ask(0, 1);
+        f.forget();
+        f.ask(1, 1);
+        f.image(1);
+        f.fair(9);
+        f.question(4, 3, 9);
+        f.question(4, 3, 8);
+        f.image(0);
+        for (int i = 0; i < 8; i++) {
+            f.ask(0, 0);
+        }
+        f.from(1);
+        due("left()", f.left(), 8);
+        partingIs(f, new int[] {1, 1}, 0, 0);
+        undoneIs(f, 0, 15);
+        partingIs(f, new int[] {2, 2}, -1, -1);
+        undoneIs(f, 1, 12);
+        undoneIs(f, 0, 15);
+        due("undo()", f.undo(), -3);
+        f.from(0);
+        due("undo(), the other one keeps none", f.undo(), -3);
+        partingIs(f, new int[] {8, 8}, -1, -1);
+        imageOfTheMost();
+    }
+
+    /** 16 CASES and 7 QUESTIONS: every one of them parts as before, up to the last CASE. */
+    private static void imageOfTheMost() {
+        QuestionFair f = of(16, 4, 7, 9, 4, 15, 9, 2, 2, 9, 5, 14, 9, 3, 3, 9, 0, 8, 9, 5, 0, 9);
+        int[] parts = {10, 6, 4, 3, 3, 2, 2};
+        partingIs(f, parts, 5, 18);
+        f.image(0);
+        f.fair(1);
+        for (int q = 0; q < 7; q++) {
+            f.question(0, 0, 0);
+        }
+        f.from(0);
+        partingIs(f, parts, 5, 18);
+        typeAll(f, "fair 1;" + "question0 0 0;".repeat(7));
+        f.read();
+        partingIs(f, new int[] {1, 1, 1, 1, 1, 1, 1}, 0, 0);
     }
 
     private static void statusAndFraction() {
