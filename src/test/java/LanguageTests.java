@@ -1,3 +1,4 @@
+import java.lang.reflect.Array;
 import java.lang.reflect.Constructor;
 import java.lang.reflect.Field;
 import java.lang.reflect.Method;
@@ -129,6 +130,34 @@ public final class LanguageTests {
         }
     }
 
+    /** Methods make nothing, so the room of a run is what its objects have: some hundreds of them must find place. */
+    private static void anObjectIsSmall() throws Exception {
+        long[] room = new long[2];
+        walk(new QuestionFair(), room, 0);
+        must(room[0] <= 60, "the room: " + room[0] + " objects and arrays in one QuestionFair");
+        must(room[1] <= 6000, "the room: " + room[1] + " fields and elements in one QuestionFair");
+    }
+
+    private static void walk(Object one, long[] room, int depth) throws Exception {
+        must(depth < 10, "the room: objects far inside one another");
+        room[0]++;
+        if (one.getClass().isArray()) {
+            room[1] += Array.getLength(one);
+            must(one.getClass().getComponentType().isPrimitive(), "the room: an array of objects is not counted");
+            return;
+        }
+        for (Field f : one.getClass().getDeclaredFields()) {
+            if (!Modifier.isStatic(f.getModifiers())) {
+                room[1]++;
+                f.setAccessible(true);
+                Object inside = f.getType().isPrimitive() ? null : f.get(one);
+                if (inside != null && depth < 10) {
+                    walk(inside, room, depth + 1);
+                }
+            }
+        }
+    }
+
     private static void methodsStayShort(String source) {
         int since = 0;
         String[] lines = source.split("\n");
@@ -147,6 +176,7 @@ public final class LanguageTests {
         String source = Files.readString(Path.of("src/main/java/QuestionFair.java"));
         theWords(source);
         objectsAreMadeOnce(source);
+        anObjectIsSmall();
         methodsStayShort(source);
         System.out.println(wrong == 0 ? "the language is kept to" : wrong + " rules are broken");
         if (wrong != 0) {
